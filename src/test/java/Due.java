@@ -1,0 +1,30 @@
+/** Counts the answers that are not as due and prints each of them. */
+final class Due {
+  private final String test;
+  private int asked = 0;
+  private int wrong = 0;
+
+  Due(String test) {
+    this.test = test;
+  }
+
+  void is(String call, long got, long want) {
+    asked++;
+    if (got != want) {
+      wrong++;
+      System.out.println(test + ": " + call + " answered " + got + ", due is " + want);
+    }
+  }
+
+  void is(String call, boolean got, boolean want) {
+    is(call, got ? 1L : 0L, want ? 1L : 0L);
+  }
+
+  /** Ends the test: exit code 1 if an answer was wrong, or if nothing was asked at all. */
+  void end() {
+    System.out.println(test + ": " + asked + " answers, " + wrong + " not as due");
+    if (wrong != 0 || asked == 0) {
+      System.exit(1);
+    }
+  }
+}
