@@ -36,6 +36,8 @@ public final class PromisesTest {
     discovered();
     agreements();
     exact();
+    exactFromNothing();
+    tenth();
     orderAndLimits();
     DUE.end();
   }
@@ -46,6 +48,11 @@ public final class PromisesTest {
       desk.give(leftAndRight[i], leftAndRight[i + 1], 0);
     }
     return desk;
+  }
+
+  /** Each column reaches the next one, and the last one the first. */
+  private static DependencyDesk ring() {
+    return singles(1, 2, 2, 4, 4, 8, 8, 16, 16, 32, 32, 1);
   }
 
   private static void parts(DependencyDesk desk, int... sets) {
@@ -159,6 +166,8 @@ public final class PromisesTest {
     DUE.is("5: follows(4, 1)", desk.follows(4, 1), false);
     DUE.is("5: follows(0, 0)", desk.follows(0, 0), true);
     DUE.is("5: follows(63, 63)", desk.follows(63, 63), true);
+    DUE.is("5: nothing reaches none of a ring", ring().follows(0, 1), false);
+    DUE.is("5: one reaches all of a ring", ring().follows(32, 31), true);
     for (int bad : NO_SETS) {
       DUE.is("5: follows(" + bad + ", 0)", desk.follows(bad, 0), false);
       DUE.is("5: follows(63, " + bad + ")", desk.follows(63, bad), false);
@@ -179,6 +188,7 @@ public final class PromisesTest {
     DUE.is("6: right within left", desk.bundles(5, 4), true);
     DUE.is("6: right within left, nothing", desk.bundles(0, 0), true);
     DUE.is("6: both are all", desk.bundles(7, 56), true);
+    DUE.is("6: nothing parts a ring", ring().bundles(0, 1), false);
     for (int bad : NO_SETS) {
       DUE.is("6: bundles(" + bad + ", 0)", desk.bundles(bad, 0), false);
       DUE.is("6: bundles(63, " + bad + ")", desk.bundles(63, bad), false);
@@ -218,7 +228,7 @@ public final class PromisesTest {
   private static void keys() {
     DUE.is("8: of a new object", new DependencyDesk().keys(), 1);
     DUE.is("8: nothing is a key", singles(0, 63).keys(), 1);
-    DUE.is("8: each column is a key", singles(1, 2, 2, 4, 4, 8, 8, 16, 16, 32, 32, 1).keys(), 6);
+    DUE.is("8: each column is a key", ring().keys(), 6);
     DUE.is("8: two ways", singles(3, 60, 12, 51).keys(), 2);
     DUE.is("8: all pairs of five and none with the sixth",
         singles(3, 60, 5, 58, 9, 54, 17, 46, 6, 57, 10, 53, 18, 45, 12, 51, 20, 43, 24, 39).keys(), 10);
@@ -346,6 +356,8 @@ public final class PromisesTest {
     DUE.is("16: from nothing", trivial.fourth(), false);
     DUE.is("16: all from nothing", singles(0, 63).fourth(), true);
     DUE.is("16: with 5 columns on the left", singles(31, 32).fourth(), true);
+    DUE.is("16: from nothing to one column, and every other one is a key",
+        singles(0, 1, 2, 63, 4, 63, 8, 63, 16, 63, 32, 63).fourth(), false);
   }
 
   private static void part() {
@@ -404,6 +416,16 @@ public final class PromisesTest {
     DependencyDesk round = singles(3, 4, 12, 16, 20, 35);
     parts(round, 7, 28, 55, 63 & ~16);
     DUE.is("19: parts that overlap twice", round.lossless(), true);
+    // Columns 0 and 1 reach column 2 by the third part, and only then does the first reach column 0.
+    int[][] orders = {{62, 24, 5, 3}, {62, 5, 3, 24}, {3, 5, 62, 24}, {5, 62, 3, 24}, {24, 3, 62, 5}};
+    for (int[] order : orders) {
+      DependencyDesk late = singles(6, 1, 1, 4);
+      parts(late, order);
+      DUE.is("19: one step waits for another, from part " + order[0], late.lossless(), true);
+    }
+    DependencyDesk last = singles(48, 1, 7, 8);
+    parts(last, 47, 49, 54, 53);
+    DUE.is("19: the last parts come first", last.lossless(), true);
   }
 
   private static void losslessEdges() {
@@ -549,6 +571,10 @@ public final class PromisesTest {
     DUE.is("24: the least and the greatest number differ", far.keeps(0, 1), false);
     far.write(1, 0, MIN);
     DUE.is("24: the least number twice", far.keeps(0, 1), true);
+    DependencyDesk apart = new DependencyDesk();
+    rows(apart, "000000", "111111");
+    DUE.is("24: two rows that agree on nothing", apart.keeps(0, 1), false);
+    DUE.is("24: two rows that agree on nothing, one column", apart.keeps(1, 63), true);
     DUE.is("24: with no set, though no row", new DependencyDesk().keeps(64, 0), false);
     DependencyDesk given = singles(0, 63);
     rows(given, "000000", "100000");
@@ -667,6 +693,51 @@ public final class PromisesTest {
     exact.take();
     exact.give(1, 2, 1);
     DUE.is("28: a line, and a bundled one that follows", exact.exact(), true);
+  }
+
+  private static void exactFromNothing() {
+    DependencyDesk desk = singles(2, 1, 4, 1, 8, 1, 16, 1, 32, 1);
+    rows(desk, "000000", "010000", "001000", "000100", "000010", "000001");
+    DUE.is("28: nothing reaches more in the table, and only nothing", desk.exact(), false);
+    desk.give(0, 1, 0);
+    DUE.is("28: nothing reaches the same", desk.exact(), true);
+  }
+
+  /** Every call that asks about the given ones looks at the tenth as well, and at no eleventh. */
+  private static void tenth() {
+    DependencyDesk desk = new DependencyDesk();
+    for (int i = 0; i < 9; i++) {
+      desk.give(63, 63, i % 2);
+    }
+    DUE.is("2: the tenth", desk.give(0, 63, 0), 9);
+    DUE.is("4: with the tenth", desk.closure(0), 63);
+    DUE.is("5: with the tenth", desk.follows(0, 63), true);
+    DUE.is("6: with the tenth", desk.bundles(0, 1), true);
+    DUE.is("7: with the tenth", desk.needs(0, 63), 1);
+    DUE.is("8: with the tenth", desk.keys(), 1);
+    DUE.is("9: with the tenth", desk.key(0), 0);
+    DUE.is("10: with the tenth", desk.closed(), 1);
+    DUE.is("11: with the tenth", desk.corners(), 0);
+    DUE.is("12: with the tenth", desk.stems(), 1);
+    DUE.is("13: with the tenth", desk.stem(0), 0);
+    DUE.is("16: with the tenth", desk.fourth(), true);
+    DUE.is("20: with the tenth, no part", desk.preserves(), false);
+    parts(desk, 31, 32);
+    DUE.is("19: with the tenth", desk.lossless(), true);
+    DUE.is("20: with the tenth", desk.preserves(), true);
+    DUE.is("28: with the tenth", desk.exact(), true);
+    desk.take();
+    desk.give(1, 2, 0);
+    DUE.is("14: with another tenth", desk.third(7), false);
+    DUE.is("15: with another tenth", desk.boyce(7), false);
+    DUE.is("13: with another tenth", desk.stem(0), 1);
+    desk.take();
+    DUE.is("4: without the tenth", desk.closure(1), 1);
+    DUE.is("8: without the tenth", desk.key(0), 63);
+    DUE.is("14: without the tenth", desk.third(7), true);
+    DUE.is("15: without the tenth", desk.boyce(7), true);
+    DUE.is("19: without the tenth", desk.lossless(), false);
+    DUE.is("20: without the tenth", desk.preserves(), true);
   }
 
   private static void orderAndLimits() {
