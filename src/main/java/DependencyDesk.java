@@ -384,8 +384,8 @@ public final class DependencyDesk {
     if (!isWithin(x, agreed) || isWithin(y, agreed)) {
       return true;
     }
-    // The row that a bundled dependency asks for is one of the two here: the one that differs from
-    // the other in no column outside x and y.
+    // The row that a bundled dependency asks for must be one of the two: the second cannot be it, as
+    // they differ on y, and the first is it if they agree on all columns outside x and y.
     return bundled && isWithin(ALL_COLUMNS & ~(x | y), agreed);
   }
 
@@ -408,7 +408,7 @@ public final class DependencyDesk {
     return meet;
   }
 
-  /** What smaller subsets of x reach: those with one column less reach as much as all. */
+  /** What smaller subsets of x reach: those with one column less reach all of it. */
   private static int reachedFromLess(long pairs, int x) {
     int reached = 0;
     for (int c = 0; c < COLUMNS; c++) {
