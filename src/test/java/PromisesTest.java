@@ -1,8 +1,8 @@
 /** Each promise of the document by itself: ordinary inputs, the edges it names, and wrong inputs. */
 public final class PromisesTest {
-  private static final int MIN = Integer.MIN_VALUE;
-  private static final int MAX = Integer.MAX_VALUE;
-  private static final int[] NO_SETS = {-1, 64, 65, 127, 128, -64, 1 << 16, MIN, MAX};
+  private static final int MIN = Desks.MIN;
+  private static final int MAX = Desks.MAX;
+  private static final int[] NO_SETS = Desks.NO_SETS;
   private static final Due DUE = new Due("PromisesTest");
 
   public static void main(String[] args) {
@@ -40,36 +40,6 @@ public final class PromisesTest {
     tenth();
     orderAndLimits();
     DUE.end();
-  }
-
-  private static DependencyDesk singles(int... leftAndRight) {
-    DependencyDesk desk = new DependencyDesk();
-    for (int i = 0; i < leftAndRight.length; i += 2) {
-      desk.give(leftAndRight[i], leftAndRight[i + 1], 0);
-    }
-    return desk;
-  }
-
-  /** Each column reaches the next one, and the last one the first. */
-  private static DependencyDesk ring() {
-    return singles(1, 2, 2, 4, 4, 8, 8, 16, 16, 32, 32, 1);
-  }
-
-  private static void parts(DependencyDesk desk, int... sets) {
-    desk.whole();
-    for (int set : sets) {
-      desk.part(set);
-    }
-  }
-
-  /** Appends a row whose six numbers are the digits of the text, column 0 first. */
-  private static void rows(DependencyDesk desk, String... digits) {
-    for (String text : digits) {
-      int r = desk.row();
-      for (int c = 0; c < 6; c++) {
-        desk.write(r, c, text.charAt(c) - '0');
-      }
-    }
   }
 
   private static void constants() {
@@ -120,7 +90,7 @@ public final class PromisesTest {
   }
 
   private static void take() {
-    DependencyDesk desk = singles(1, 2, 2, 4);
+    DependencyDesk desk = Desks.singles(1, 2, 2, 4);
     DUE.is("3: closure(1) with two", desk.closure(1), 7);
     DUE.is("3: take()", desk.take(), 1);
     DUE.is("3: closure(1) with one", desk.closure(1), 3);
@@ -139,7 +109,7 @@ public final class PromisesTest {
   }
 
   private static void closure() {
-    DependencyDesk desk = singles(3, 4, 4, 8, 12, 48);
+    DependencyDesk desk = Desks.singles(3, 4, 4, 8, 12, 48);
     DUE.is("4: closure(0)", desk.closure(0), 0);
     DUE.is("4: closure(1)", desk.closure(1), 1);
     DUE.is("4: closure(3)", desk.closure(3), 63);
@@ -149,16 +119,16 @@ public final class PromisesTest {
     for (int bad : NO_SETS) {
       DUE.is("4: closure(" + bad + ")", desk.closure(bad), -1);
     }
-    DependencyDesk mixed = singles(8, 2);
+    DependencyDesk mixed = Desks.singles(8, 2);
     mixed.give(1, 6, 1);
     DUE.is("4: closure(1) by way of a bundled one", mixed.closure(1), 3);
     DUE.is("4: closure(5) by way of a bundled one", mixed.closure(5), 7);
     DUE.is("4: closure(4)", mixed.closure(4), 4);
-    DUE.is("4: closure of nothing", singles(0, 32).closure(0), 32);
+    DUE.is("4: closure of nothing", Desks.singles(0, 32).closure(0), 32);
   }
 
   private static void follows() {
-    DependencyDesk desk = singles(1, 2, 2, 4);
+    DependencyDesk desk = Desks.singles(1, 2, 2, 4);
     DUE.is("5: follows(1, 4)", desk.follows(1, 4), true);
     DUE.is("5: follows(1, 7)", desk.follows(1, 7), true);
     DUE.is("5: follows(9, 14)", desk.follows(9, 14), true);
@@ -166,8 +136,8 @@ public final class PromisesTest {
     DUE.is("5: follows(4, 1)", desk.follows(4, 1), false);
     DUE.is("5: follows(0, 0)", desk.follows(0, 0), true);
     DUE.is("5: follows(63, 63)", desk.follows(63, 63), true);
-    DUE.is("5: nothing reaches none of a ring", ring().follows(0, 1), false);
-    DUE.is("5: one reaches all of a ring", ring().follows(32, 31), true);
+    DUE.is("5: nothing reaches none of a ring", Desks.ring().follows(0, 1), false);
+    DUE.is("5: one reaches all of a ring", Desks.ring().follows(32, 31), true);
     for (int bad : NO_SETS) {
       DUE.is("5: follows(" + bad + ", 0)", desk.follows(bad, 0), false);
       DUE.is("5: follows(63, " + bad + ")", desk.follows(63, bad), false);
@@ -175,7 +145,7 @@ public final class PromisesTest {
   }
 
   private static void bundles() {
-    DependencyDesk desk = singles(8, 2);
+    DependencyDesk desk = Desks.singles(8, 2);
     desk.give(1, 6, 1);
     DUE.is("6: the given one", desk.bundles(1, 6), true);
     DUE.is("6: the rest of it", desk.bundles(1, 56), true);
@@ -188,7 +158,7 @@ public final class PromisesTest {
     DUE.is("6: right within left", desk.bundles(5, 4), true);
     DUE.is("6: right within left, nothing", desk.bundles(0, 0), true);
     DUE.is("6: both are all", desk.bundles(7, 56), true);
-    DUE.is("6: nothing parts a ring", ring().bundles(0, 1), false);
+    DUE.is("6: nothing parts a ring", Desks.ring().bundles(0, 1), false);
     for (int bad : NO_SETS) {
       DUE.is("6: bundles(" + bad + ", 0)", desk.bundles(bad, 0), false);
       DUE.is("6: bundles(63, " + bad + ")", desk.bundles(63, bad), false);
@@ -196,7 +166,7 @@ public final class PromisesTest {
   }
 
   private static void needs() {
-    DependencyDesk desk = singles(1, 2, 2, 4, 4, 8, 2, 8);
+    DependencyDesk desk = Desks.singles(1, 2, 2, 4, 4, 8, 2, 8);
     DUE.is("7: needs(1, 2)", desk.needs(1, 2), 1);
     DUE.is("7: needs(1, 4)", desk.needs(1, 4), 2);
     DUE.is("7: needs(1, 8), not by the long way", desk.needs(1, 8), 2);
@@ -209,7 +179,7 @@ public final class PromisesTest {
       DUE.is("7: needs(1, " + bad + ")", desk.needs(1, bad), -1);
     }
     DUE.is("7: needs(1, 8) is unchanged", desk.needs(1, 8), 2);
-    DependencyDesk mixed = singles(8, 2, 32, 16);
+    DependencyDesk mixed = Desks.singles(8, 2, 32, 16);
     mixed.give(1, 6, 1);
     DUE.is("7: a single and a bundled one", mixed.needs(1, 2), 2);
     DUE.is("7: none for a part of the bundle", mixed.needs(1, 4), -3);
@@ -221,24 +191,24 @@ public final class PromisesTest {
       all.give(1 << i, 2 << i, 0);
     }
     DUE.is("7: ten given, half of them twice", all.needs(1, 32), 5);
-    DependencyDesk ten = singles(3, 4, 5, 8, 9, 16, 17, 32, 33, 2, 48, 2, 24, 4, 12, 32, 6, 8, 63, 0);
+    DependencyDesk ten = Desks.singles(3, 4, 5, 8, 9, 16, 17, 32, 33, 2, 48, 2, 24, 4, 12, 32, 6, 8, 63, 0);
     DUE.is("7: ten given, no short way", ten.needs(3, 63), 4);
   }
 
   private static void keys() {
     DUE.is("8: of a new object", new DependencyDesk().keys(), 1);
-    DUE.is("8: nothing is a key", singles(0, 63).keys(), 1);
-    DUE.is("8: each column is a key", ring().keys(), 6);
-    DUE.is("8: two ways", singles(3, 60, 12, 51).keys(), 2);
+    DUE.is("8: nothing is a key", Desks.singles(0, 63).keys(), 1);
+    DUE.is("8: each column is a key", Desks.ring().keys(), 6);
+    DUE.is("8: two ways", Desks.singles(3, 60, 12, 51).keys(), 2);
     DUE.is("8: all pairs of five and none with the sixth",
-        singles(3, 60, 5, 58, 9, 54, 17, 46, 6, 57, 10, 53, 18, 45, 12, 51, 20, 43, 24, 39).keys(), 10);
-    DependencyDesk mixed = singles(8, 2);
+        Desks.singles(3, 60, 5, 58, 9, 54, 17, 46, 6, 57, 10, 53, 18, 45, 12, 51, 20, 43, 24, 39).keys(), 10);
+    DependencyDesk mixed = Desks.singles(8, 2);
     mixed.give(1, 6, 1);
     DUE.is("8: by way of a bundled one", mixed.keys(), 1);
   }
 
   private static void key() {
-    DependencyDesk desk = singles(12, 51, 3, 60, 32, 31);
+    DependencyDesk desk = Desks.singles(12, 51, 3, 60, 32, 31);
     DUE.is("9: key(0)", desk.key(0), 3);
     DUE.is("9: key(1)", desk.key(1), 12);
     DUE.is("9: key(2)", desk.key(2), 32);
@@ -248,18 +218,18 @@ public final class PromisesTest {
     DUE.is("9: key(MAX)", desk.key(MAX), -3);
     DUE.is("9: key(64)", desk.key(64), -3);
     DUE.is("9: of a new object", new DependencyDesk().key(0), 63);
-    DUE.is("9: nothing is the key", singles(0, 63).key(0), 0);
-    DUE.is("9: nothing is the only key", singles(0, 63).key(1), -3);
-    DependencyDesk mixed = singles(8, 2);
+    DUE.is("9: nothing is the key", Desks.singles(0, 63).key(0), 0);
+    DUE.is("9: nothing is the only key", Desks.singles(0, 63).key(1), -3);
+    DependencyDesk mixed = Desks.singles(8, 2);
     mixed.give(1, 6, 1);
     DUE.is("9: by way of a bundled one", mixed.key(0), 61);
   }
 
   private static void closed() {
     DUE.is("10: of a new object", new DependencyDesk().closed(), 64);
-    DUE.is("10: all from nothing", singles(0, 63).closed(), 1);
-    DUE.is("10: one column from another", singles(1, 2).closed(), 48);
-    DUE.is("10: one column from nothing", singles(0, 1).closed(), 32);
+    DUE.is("10: all from nothing", Desks.singles(0, 63).closed(), 1);
+    DUE.is("10: one column from another", Desks.singles(1, 2).closed(), 48);
+    DUE.is("10: one column from nothing", Desks.singles(0, 1).closed(), 32);
     DependencyDesk bundled = new DependencyDesk();
     bundled.give(0, 7, 1);
     DUE.is("10: a bundled one alone", bundled.closed(), 64);
@@ -267,29 +237,29 @@ public final class PromisesTest {
 
   private static void corners() {
     DUE.is("11: of a new object", new DependencyDesk().corners(), 6);
-    DUE.is("11: 63 is none", singles(0, 63).corners(), 0);
-    DUE.is("11: a row of columns", singles(1, 2, 2, 4, 4, 8, 8, 16, 16, 32).corners(), 6);
-    DUE.is("11: one column is a key of all", singles(1, 62).corners(), 6);
-    DUE.is("11: each column is a key", singles(1, 62, 2, 61, 4, 59, 8, 55, 16, 47, 32, 31).corners(), 1);
+    DUE.is("11: 63 is none", Desks.singles(0, 63).corners(), 0);
+    DUE.is("11: a row of columns", Desks.singles(1, 2, 2, 4, 4, 8, 8, 16, 16, 32).corners(), 6);
+    DUE.is("11: one column is a key of all", Desks.singles(1, 62).corners(), 6);
+    DUE.is("11: each column is a key", Desks.singles(1, 62, 2, 61, 4, 59, 8, 55, 16, 47, 32, 31).corners(), 1);
     // Closed are those with none, one or all of columns 0 to 2: corners are 57, 58, 60, 31, 47, 55.
-    DUE.is("11: each two of three reach the third", singles(3, 4, 5, 2, 6, 1).corners(), 6);
+    DUE.is("11: each two of three reach the third", Desks.singles(3, 4, 5, 2, 6, 1).corners(), 6);
   }
 
   private static void stems() {
     DUE.is("12: of a new object", new DependencyDesk().stems(), 0);
-    DUE.is("12: all from nothing", singles(0, 63).stems(), 1);
-    DUE.is("12: the same one twice", singles(1, 2, 1, 2).stems(), 1);
-    DUE.is("12: one that follows from two", singles(1, 2, 2, 4, 1, 4).stems(), 2);
-    DUE.is("12: one within another", singles(0, 60, 3, 4).stems(), 1);
-    DUE.is("12: one upon another", singles(1, 2, 3, 4).stems(), 1);
-    DUE.is("12: one beside another", singles(1, 2, 5, 8).stems(), 2);
+    DUE.is("12: all from nothing", Desks.singles(0, 63).stems(), 1);
+    DUE.is("12: the same one twice", Desks.singles(1, 2, 1, 2).stems(), 1);
+    DUE.is("12: one that follows from two", Desks.singles(1, 2, 2, 4, 1, 4).stems(), 2);
+    DUE.is("12: one within another", Desks.singles(0, 60, 3, 4).stems(), 1);
+    DUE.is("12: one upon another", Desks.singles(1, 2, 3, 4).stems(), 1);
+    DUE.is("12: one beside another", Desks.singles(1, 2, 5, 8).stems(), 2);
     DependencyDesk bundled = new DependencyDesk();
     bundled.give(1, 6, 1);
     DUE.is("12: a bundled one alone", bundled.stems(), 0);
   }
 
   private static void stem() {
-    DependencyDesk desk = singles(5, 8, 1, 2);
+    DependencyDesk desk = Desks.singles(5, 8, 1, 2);
     DUE.is("13: stem(0)", desk.stem(0), 1);
     DUE.is("13: stem(1) has the closure of stem(0)", desk.stem(1), 7);
     DUE.is("13: stem(2)", desk.stem(2), -3);
@@ -297,42 +267,42 @@ public final class PromisesTest {
     DUE.is("13: stem(MIN)", desk.stem(MIN), -3);
     DUE.is("13: stem(MAX)", desk.stem(MAX), -3);
     DUE.is("13: of a new object", new DependencyDesk().stem(0), -3);
-    DUE.is("13: nothing is a stem", singles(0, 63).stem(0), 0);
-    DUE.is("13: no second stem", singles(0, 63).stem(1), -3);
+    DUE.is("13: nothing is a stem", Desks.singles(0, 63).stem(0), 0);
+    DUE.is("13: no second stem", Desks.singles(0, 63).stem(1), -3);
   }
 
   private static void third() {
-    DependencyDesk desk = singles(3, 4, 4, 2);
+    DependencyDesk desk = Desks.singles(3, 4, 4, 2);
     DUE.is("14: each column is in a key", desk.third(7), true);
     DUE.is("14: two columns", desk.third(6), true);
     DUE.is("14: all columns", desk.third(63), true);
     DUE.is("14: a subset without dependencies", desk.third(35), true);
     DUE.is("14: nothing", desk.third(0), true);
-    DUE.is("14: a row of three", singles(1, 2, 2, 4).third(7), false);
-    DUE.is("14: a row of three, its ends", singles(1, 2, 2, 4).third(5), true);
-    DUE.is("14: a part of a key reaches out", singles(3, 60, 1, 4).third(63), false);
-    DependencyDesk wide = singles(8, 3, 3, 4, 4, 2);
+    DUE.is("14: a row of three", Desks.singles(1, 2, 2, 4).third(7), false);
+    DUE.is("14: a row of three, its ends", Desks.singles(1, 2, 2, 4).third(5), true);
+    DUE.is("14: a part of a key reaches out", Desks.singles(3, 60, 1, 4).third(63), false);
+    DependencyDesk wide = Desks.singles(8, 3, 3, 4, 4, 2);
     DUE.is("14: keys of S, not of all", wide.third(7), true);
     DUE.is("14: all columns with those", wide.third(63), false);
-    DUE.is("14: one column from nothing", singles(0, 1).third(1), true);
-    DUE.is("14: one column from nothing, and another", singles(0, 1).third(3), false);
+    DUE.is("14: one column from nothing", Desks.singles(0, 1).third(1), true);
+    DUE.is("14: one column from nothing, and another", Desks.singles(0, 1).third(3), false);
     for (int bad : NO_SETS) {
       DUE.is("14: third(" + bad + ")", desk.third(bad), false);
     }
   }
 
   private static void boyce() {
-    DependencyDesk desk = singles(3, 4, 4, 2);
+    DependencyDesk desk = Desks.singles(3, 4, 4, 2);
     DUE.is("15: in third form alone", desk.boyce(7), false);
     DUE.is("15: two columns", desk.boyce(6), true);
     DUE.is("15: two columns and one more", desk.boyce(14), false);
     DUE.is("15: nothing", desk.boyce(0), true);
     DUE.is("15: all columns", desk.boyce(63), false);
     DUE.is("15: a subset without dependencies", desk.boyce(11), true);
-    DUE.is("15: by way of a column outside", singles(1, 8, 8, 2).boyce(7), false);
-    DUE.is("15: a key of all", singles(1, 62).boyce(63), true);
+    DUE.is("15: by way of a column outside", Desks.singles(1, 8, 8, 2).boyce(7), false);
+    DUE.is("15: a key of all", Desks.singles(1, 62).boyce(63), true);
     DUE.is("15: of a new object", new DependencyDesk().boyce(63), true);
-    DUE.is("15: one column from nothing, and another", singles(0, 1).boyce(3), false);
+    DUE.is("15: one column from nothing, and another", Desks.singles(0, 1).boyce(3), false);
     for (int bad : NO_SETS) {
       DUE.is("15: boyce(" + bad + ")", desk.boyce(bad), false);
     }
@@ -354,10 +324,10 @@ public final class PromisesTest {
     DUE.is("16: both are all", trivial.fourth(), true);
     trivial.give(0, 32, 1);
     DUE.is("16: from nothing", trivial.fourth(), false);
-    DUE.is("16: all from nothing", singles(0, 63).fourth(), true);
-    DUE.is("16: with 5 columns on the left", singles(31, 32).fourth(), true);
+    DUE.is("16: all from nothing", Desks.singles(0, 63).fourth(), true);
+    DUE.is("16: with 5 columns on the left", Desks.singles(31, 32).fourth(), true);
     DUE.is("16: from nothing to one column, and every other one is a key",
-        singles(0, 1, 2, 63, 4, 63, 8, 63, 16, 63, 32, 63).fourth(), false);
+        Desks.singles(0, 1, 2, 63, 4, 63, 8, 63, 16, 63, 32, 63).fourth(), false);
   }
 
   private static void part() {
@@ -379,7 +349,7 @@ public final class PromisesTest {
     DependencyDesk desk = new DependencyDesk();
     desk.give(1, 2, 0);
     desk.row();
-    parts(desk, 63, 1, 2, 4);
+    Desks.parts(desk, 63, 1, 2, 4);
     DUE.is("18: lossless() before", desk.lossless(), true);
     DUE.is("18: preserves() before", desk.preserves(), true);
     desk.whole();
@@ -395,97 +365,97 @@ public final class PromisesTest {
   }
 
   private static void lossless() {
-    DependencyDesk desk = singles(1, 6);
-    parts(desk, 7, 57);
+    DependencyDesk desk = Desks.singles(1, 6);
+    Desks.parts(desk, 7, 57);
     DUE.is("19: what they share reaches one of them", desk.lossless(), true);
-    parts(desk, 57, 7);
+    Desks.parts(desk, 57, 7);
     DUE.is("19: the same in the other order", desk.lossless(), true);
-    parts(desk, 7, 56);
+    Desks.parts(desk, 7, 56);
     DUE.is("19: they share nothing", desk.lossless(), false);
-    parts(desk, 3, 5, 57);
+    Desks.parts(desk, 3, 5, 57);
     DUE.is("19: three parts", desk.lossless(), true);
-    parts(desk, 3, 6, 57);
+    Desks.parts(desk, 3, 6, 57);
     DUE.is("19: three parts, of which one hangs loose", desk.lossless(), false);
-    DependencyDesk line = singles(1, 2, 2, 4, 4, 8, 8, 48);
-    parts(line, 3, 6, 12, 56);
+    DependencyDesk line = Desks.singles(1, 2, 2, 4, 4, 8, 8, 48);
+    Desks.parts(line, 3, 6, 12, 56);
     DUE.is("19: four parts in a line", line.lossless(), true);
-    parts(line, 56, 12, 6, 3);
+    Desks.parts(line, 56, 12, 6, 3);
     DUE.is("19: four parts in a line, backwards", line.lossless(), true);
-    parts(line, 3, 6, 56);
+    Desks.parts(line, 3, 6, 56);
     DUE.is("19: a line with a gap", line.lossless(), false);
-    DependencyDesk round = singles(3, 4, 12, 16, 20, 35);
-    parts(round, 7, 28, 55, 63 & ~16);
+    DependencyDesk round = Desks.singles(3, 4, 12, 16, 20, 35);
+    Desks.parts(round, 7, 28, 55, 63 & ~16);
     DUE.is("19: parts that overlap twice", round.lossless(), true);
     // Columns 0 and 1 reach column 2 by the third part, and only then does the first reach column 0.
     int[][] orders = {{62, 24, 5, 3}, {62, 5, 3, 24}, {3, 5, 62, 24}, {5, 62, 3, 24}, {24, 3, 62, 5}};
     for (int[] order : orders) {
-      DependencyDesk late = singles(6, 1, 1, 4);
-      parts(late, order);
+      DependencyDesk late = Desks.singles(6, 1, 1, 4);
+      Desks.parts(late, order);
       DUE.is("19: one step waits for another, from part " + order[0], late.lossless(), true);
     }
-    DependencyDesk last = singles(48, 1, 7, 8);
-    parts(last, 47, 49, 54, 53);
+    DependencyDesk last = Desks.singles(48, 1, 7, 8);
+    Desks.parts(last, 47, 49, 54, 53);
     DUE.is("19: the last parts come first", last.lossless(), true);
   }
 
   private static void losslessEdges() {
-    DependencyDesk desk = singles(0, 32);
+    DependencyDesk desk = Desks.singles(0, 32);
     DUE.is("19: no part", desk.lossless(), false);
-    parts(desk, 31);
+    Desks.parts(desk, 31);
     DUE.is("19: a column is in no part, though always the same", desk.lossless(), false);
-    parts(desk, 63);
+    Desks.parts(desk, 63);
     DUE.is("19: all in one part", desk.lossless(), true);
-    parts(desk, 0, 63, 0, 0);
+    Desks.parts(desk, 0, 63, 0, 0);
     DUE.is("19: parts of nothing beside it", desk.lossless(), true);
-    parts(desk, 0);
+    Desks.parts(desk, 0);
     DUE.is("19: a part of nothing alone", desk.lossless(), false);
-    parts(desk, 0, 0, 0, 0);
+    Desks.parts(desk, 0, 0, 0, 0);
     DUE.is("19: parts of nothing alone", desk.lossless(), false);
-    parts(desk, 31, 32);
+    Desks.parts(desk, 31, 32);
     DUE.is("19: a column that is always the same by itself", desk.lossless(), true);
     DependencyDesk bundled = new DependencyDesk();
     bundled.give(1, 6, 1);
-    parts(bundled, 7, 57);
+    Desks.parts(bundled, 7, 57);
     DUE.is("19: bundled ones do not count", bundled.lossless(), false);
-    DependencyDesk mixed = singles(8, 2);
+    DependencyDesk mixed = Desks.singles(8, 2);
     mixed.give(1, 6, 1);
-    parts(mixed, 3, 61);
+    Desks.parts(mixed, 3, 61);
     DUE.is("19: nor what follows by way of them", mixed.lossless(), false);
     mixed.give(1, 2, 0);
     DUE.is("19: the single one itself does", mixed.lossless(), true);
   }
 
   private static void preserves() {
-    DependencyDesk desk = singles(1, 2, 2, 4, 4, 1);
+    DependencyDesk desk = Desks.singles(1, 2, 2, 4, 4, 1);
     DUE.is("20: no part", desk.preserves(), false);
-    parts(desk, 3, 6);
+    Desks.parts(desk, 3, 6);
     DUE.is("20: each way round by the parts", desk.preserves(), true);
-    parts(desk, 6, 3);
+    Desks.parts(desk, 6, 3);
     DUE.is("20: the same in the other order", desk.preserves(), true);
-    parts(desk, 3, 4);
+    Desks.parts(desk, 3, 4);
     DUE.is("20: one is lost", desk.preserves(), false);
-    parts(desk, 63);
+    Desks.parts(desk, 63);
     DUE.is("20: all in one part", desk.preserves(), true);
-    parts(desk, 0);
+    Desks.parts(desk, 0);
     DUE.is("20: a part of nothing", desk.preserves(), false);
     DUE.is("20: of a new object", new DependencyDesk().preserves(), true);
-    DUE.is("20: right within left, no part", singles(7, 3).preserves(), true);
+    DUE.is("20: right within left, no part", Desks.singles(7, 3).preserves(), true);
     DependencyDesk bundled = new DependencyDesk();
     bundled.give(1, 6, 1);
     DUE.is("20: bundled ones do not count", bundled.preserves(), true);
-    DependencyDesk mixed = singles(8, 2, 17, 2);
+    DependencyDesk mixed = Desks.singles(8, 2, 17, 2);
     mixed.give(1, 6, 1);
-    parts(mixed, 10, 3);
+    Desks.parts(mixed, 10, 3);
     DUE.is("20: nor what follows by way of them", mixed.preserves(), false);
-    parts(mixed, 10, 19);
+    Desks.parts(mixed, 10, 19);
     DUE.is("20: with a part for each", mixed.preserves(), true);
-    DependencyDesk line = singles(1, 2, 2, 4, 4, 8, 1, 8);
-    parts(line, 12, 6, 3);
+    DependencyDesk line = Desks.singles(1, 2, 2, 4, 4, 8, 1, 8);
+    Desks.parts(line, 12, 6, 3);
     DUE.is("20: from part to part", line.preserves(), true);
-    DependencyDesk empty = singles(0, 32);
-    parts(empty, 32);
+    DependencyDesk empty = Desks.singles(0, 32);
+    Desks.parts(empty, 32);
     DUE.is("20: from nothing", empty.preserves(), true);
-    parts(empty, 31);
+    Desks.parts(empty, 31);
     DUE.is("20: from nothing, without its column", empty.preserves(), false);
   }
 
@@ -532,9 +502,9 @@ public final class PromisesTest {
   }
 
   private static void blank() {
-    DependencyDesk desk = singles(1, 2);
+    DependencyDesk desk = Desks.singles(1, 2);
     desk.part(63);
-    rows(desk, "123456", "654321");
+    Desks.rows(desk, "123456", "654321");
     DUE.is("23: agreements() before", desk.agreements(), 1);
     desk.blank();
     DUE.is("23: agreements() after", desk.agreements(), 0);
@@ -548,9 +518,9 @@ public final class PromisesTest {
   private static void keeps() {
     DependencyDesk desk = new DependencyDesk();
     DUE.is("24: no row", desk.keeps(0, 63), true);
-    rows(desk, "111111");
+    Desks.rows(desk, "111111");
     DUE.is("24: one row", desk.keeps(0, 63), true);
-    rows(desk, "112112", "212121");
+    Desks.rows(desk, "112112", "212121");
     DUE.is("24: keeps(1, 2)", desk.keeps(1, 2), true);
     DUE.is("24: keeps(1, 4)", desk.keeps(1, 4), false);
     DUE.is("24: keeps(4, 1)", desk.keeps(4, 1), false);
@@ -572,19 +542,19 @@ public final class PromisesTest {
     far.write(1, 0, MIN);
     DUE.is("24: the least number twice", far.keeps(0, 1), true);
     DependencyDesk apart = new DependencyDesk();
-    rows(apart, "000000", "111111");
+    Desks.rows(apart, "000000", "111111");
     DUE.is("24: two rows that agree on nothing", apart.keeps(0, 1), false);
     DUE.is("24: two rows that agree on nothing, one column", apart.keeps(1, 63), true);
     DUE.is("24: with no set, though no row", new DependencyDesk().keeps(64, 0), false);
-    DependencyDesk given = singles(0, 63);
-    rows(given, "000000", "100000");
+    DependencyDesk given = Desks.singles(0, 63);
+    Desks.rows(given, "000000", "100000");
     DUE.is("24: the given ones do not count", given.keeps(0, 63), false);
   }
 
   private static void keepsBundled() {
     DependencyDesk desk = new DependencyDesk();
     DUE.is("25: no row", desk.keepsBundled(0, 1), true);
-    rows(desk, "000000", "100000", "010000", "110000");
+    Desks.rows(desk, "000000", "100000", "010000", "110000");
     DUE.is("25: all four", desk.keepsBundled(0, 1), true);
     DUE.is("25: all four, the rest", desk.keepsBundled(0, 62), true);
     desk.write(3, 5, 1);
@@ -599,12 +569,12 @@ public final class PromisesTest {
     };
     for (String[] three : threes) {
       DependencyDesk lacking = new DependencyDesk();
-      rows(lacking, three);
+      Desks.rows(lacking, three);
       DUE.is("25: three of four from " + three[0], lacking.keepsBundled(0, 1), false);
       DUE.is("25: three of four from " + three[0] + ", more on the left", lacking.keepsBundled(2, 1), true);
     }
     DependencyDesk overlap = new DependencyDesk();
-    rows(overlap, "500000", "510000", "501000", "511000");
+    Desks.rows(overlap, "500000", "510000", "501000", "511000");
     DUE.is("25: right has the left", overlap.keepsBundled(1, 3), true);
     for (int bad : NO_SETS) {
       DUE.is("25: keepsBundled(" + bad + ", 0)", desk.keepsBundled(bad, 0), false);
@@ -616,9 +586,9 @@ public final class PromisesTest {
   private static void discovered() {
     DependencyDesk desk = new DependencyDesk();
     DUE.is("26: no row", desk.discovered(), 6);
-    rows(desk, "000000");
+    Desks.rows(desk, "000000");
     DUE.is("26: one row", desk.discovered(), 6);
-    rows(desk, "000000");
+    Desks.rows(desk, "000000");
     DUE.is("26: the same row twice", desk.discovered(), 6);
     desk.write(1, 0, 1);
     DUE.is("26: one column differs", desk.discovered(), 5);
@@ -626,29 +596,29 @@ public final class PromisesTest {
     DUE.is("26: two columns differ", desk.discovered(), 6);
     // Columns 0 and 1 together reach 2, but neither alone; likewise each two of them the third.
     DependencyDesk three = new DependencyDesk();
-    rows(three, "000000", "011000", "101000", "110000");
+    Desks.rows(three, "000000", "011000", "101000", "110000");
     DUE.is("26: each two of three", three.discovered(), 6);
     DependencyDesk each = new DependencyDesk();
-    rows(each, "000000", "111111");
+    Desks.rows(each, "000000", "111111");
     DUE.is("26: each from each", each.discovered(), 30);
   }
 
   private static void agreements() {
     DependencyDesk desk = new DependencyDesk();
     DUE.is("27: no row", desk.agreements(), 0);
-    rows(desk, "000000");
+    Desks.rows(desk, "000000");
     DUE.is("27: one row", desk.agreements(), 0);
-    rows(desk, "111111");
+    Desks.rows(desk, "111111");
     DUE.is("27: two rows that agree on nothing", desk.agreements(), 1);
-    rows(desk, "222222");
+    Desks.rows(desk, "222222");
     DUE.is("27: three rows that agree on nothing", desk.agreements(), 1);
-    rows(desk, "022222");
+    Desks.rows(desk, "022222");
     DUE.is("27: a fourth row", desk.agreements(), 3);
     DependencyDesk six = new DependencyDesk();
-    rows(six, "000000", "011111", "102222", "220333", "333044", "444405");
+    Desks.rows(six, "000000", "011111", "102222", "220333", "333044", "444405");
     DUE.is("27: six rows", six.agreements(), 6);
     DependencyDesk most = new DependencyDesk();
-    rows(most, "000001", "000110", "011010", "101020", "110200", "222003");
+    Desks.rows(most, "000001", "000110", "011010", "101020", "110200", "222003");
     DUE.is("27: six rows, many sets", most.agreements(), countAgreements(
         "000001", "000110", "011010", "101020", "110200", "222003"));
   }
@@ -672,7 +642,7 @@ public final class PromisesTest {
     DUE.is("28: no row, none given", desk.exact(), false);
     desk.give(0, 63, 0);
     DUE.is("28: no row, all from nothing", desk.exact(), true);
-    rows(desk, "123456", "123456");
+    Desks.rows(desk, "123456", "123456");
     DUE.is("28: the same row twice, all from nothing", desk.exact(), true);
     desk.write(1, 5, 0);
     DUE.is("28: a given one is broken", desk.exact(), false);
@@ -682,11 +652,11 @@ public final class PromisesTest {
     desk.take();
     desk.give(0, 30, 0);
     DUE.is("28: more than the given one", desk.exact(), false);
-    DependencyDesk line = singles(0, 56, 1, 2, 2, 4);
-    rows(line, "000000", "110000", "220000", "331000");
+    DependencyDesk line = Desks.singles(0, 56, 1, 2, 2, 4);
+    Desks.rows(line, "000000", "110000", "220000", "331000");
     DUE.is("28: a line that is kept backwards, too", line.exact(), false);
-    DependencyDesk exact = singles(0, 56, 1, 2, 2, 4);
-    rows(exact, "000000", "100000", "210000", "321000");
+    DependencyDesk exact = Desks.singles(0, 56, 1, 2, 2, 4);
+    Desks.rows(exact, "000000", "100000", "210000", "321000");
     DUE.is("28: a line", exact.exact(), true);
     exact.give(0, 1, 1);
     DUE.is("28: a line, and a bundled one that makes more follow", exact.exact(), false);
@@ -696,8 +666,8 @@ public final class PromisesTest {
   }
 
   private static void exactFromNothing() {
-    DependencyDesk desk = singles(2, 1, 4, 1, 8, 1, 16, 1, 32, 1);
-    rows(desk, "000000", "010000", "001000", "000100", "000010", "000001");
+    DependencyDesk desk = Desks.singles(2, 1, 4, 1, 8, 1, 16, 1, 32, 1);
+    Desks.rows(desk, "000000", "010000", "001000", "000100", "000010", "000001");
     DUE.is("28: nothing reaches more in the table, and only nothing", desk.exact(), false);
     desk.give(0, 1, 0);
     DUE.is("28: nothing reaches the same", desk.exact(), true);
@@ -722,7 +692,7 @@ public final class PromisesTest {
     DUE.is("13: with the tenth", desk.stem(0), 0);
     DUE.is("16: with the tenth", desk.fourth(), true);
     DUE.is("20: with the tenth, no part", desk.preserves(), false);
-    parts(desk, 31, 32);
+    Desks.parts(desk, 31, 32);
     DUE.is("19: with the tenth", desk.lossless(), true);
     DUE.is("20: with the tenth", desk.preserves(), true);
     DUE.is("28: with the tenth", desk.exact(), true);
@@ -742,17 +712,17 @@ public final class PromisesTest {
 
   private static void orderAndLimits() {
     DependencyDesk desk = new DependencyDesk();
-    rows(desk, "123456", "123456");
+    Desks.rows(desk, "123456", "123456");
     DUE.is("29: the same row twice", desk.agreements(), 1);
-    rows(desk, "123456");
+    Desks.rows(desk, "123456");
     DUE.is("29: the same row three times", desk.agreements(), 1);
-    rows(desk, "123450");
+    Desks.rows(desk, "123450");
     DUE.is("29: another row", desk.agreements(), 2);
     DependencyDesk apart = new DependencyDesk();
-    rows(apart, "123456", "000000", "123456");
+    Desks.rows(apart, "123456", "000000", "123456");
     DUE.is("29: the same row at two places apart", apart.agreements(), 2);
     DependencyDesk alone = new DependencyDesk();
-    rows(alone, "123456");
+    Desks.rows(alone, "123456");
     DUE.is("29: a row is not two", alone.agreements(), 0);
   }
 }
