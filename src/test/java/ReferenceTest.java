@@ -2,175 +2,63 @@ import java.util.List;
 
 /** Many runs of calls, the same at every start, on the class and on the reference side by side. */
 public final class ReferenceTest {
-  private static final int RUNS = 250;
-  private static final int CALLS = 512;
-  private static final int[] ODD_SETS = {-1, 64, 100, Integer.MIN_VALUE, Integer.MAX_VALUE};
+  private static final int RUNS = 270;
+
+  /** How often each call comes, of 240 calls. */
+  private static final Object[] SHARES = {
+    "give", 20, "take", 10, "whole", 5, "part", 25, "blank", 1, "row", 5, "write", 24,
+    "closure", 15, "follows", 15, "bundles", 15, "needs", 15,
+    "keys", 5, "key", 5, "closed", 5, "corners", 5, "stems", 5, "stem", 5,
+    "third", 6, "boyce", 6, "fourth", 6, "lossless", 6, "preserves", 6,
+    "keeps", 6, "keepsBundled", 6, "discovered", 6, "agreements", 6, "exact", 6,
+  };
   private static final Due DUE = new Due("ReferenceTest");
-
-  private long state;
-  private final String name;
-  private final DependencyDesk desk = new DependencyDesk();
-  private final Reference reference = new Reference();
-
-  private ReferenceTest(int number) {
-    name = "run " + number + ": ";
-    state = number * 0x9E3779B97F4A7C15L + 1;
-  }
 
   public static void main(String[] args) {
     for (int i = 0; i < RUNS; i++) {
-      new ReferenceTest(i).anyCalls();
+      anyCalls(i);
     }
     for (int i = 0; i < RUNS; i++) {
-      new ReferenceTest(RUNS + i).exactTables();
+      exactTable(RUNS + i);
     }
     DUE.end();
   }
 
-  /** A fixed sequence of numbers below the bound, so that a failure comes again. */
-  private int next(int bound) {
-    state = state * 6364136223846793005L + 1442695040888963407L;
-    return (int) ((state >>> 33) % bound);
-  }
-
-  private int oneOf(int[] choice) {
-    return choice[next(choice.length)];
-  }
-
-  private int smallSet() {
-    int columns = next(4);
-    int set = 0;
-    for (int i = 0; i < columns; i++) {
-      set |= 1 << next(6);
+  /** Calls as they come, to the last one that is promised, which is each of the face in turn. */
+  private static void anyCalls(int number) {
+    Numbers numbers = new Numbers(number);
+    Beside both = new Beside(DUE, "run " + number);
+    while (both.callsMade() < Beside.MOST_CALLS - 1) {
+      String call = anyCall(numbers);
+      both.call(call, numbers.argumentsFor(call));
     }
-    return set;
+    String last = Beside.FACE[number % Beside.FACE.length];
+    both.call(last, numbers.argumentsFor(last));
   }
 
-  private int set() {
-    int kind = next(40);
-    return kind == 0 ? oneOf(ODD_SETS) : kind < 24 ? smallSet() : next(64);
-  }
-
-  private int index() {
-    return next(20) == 0 ? oneOf(ODD_SETS) : next(8);
-  }
-
-  private void anyCalls() {
-    int numbers = 1 + next(3);
-    int bundledOnes = next(4);
-    for (int i = 0; i < CALLS; i++) {
-      int kind = next(8);
-      if (kind == 0) {
-        changeGiven(bundledOnes);
-      } else if (kind == 1) {
-        changeParts();
-      } else if (kind == 2) {
-        changeTable(numbers);
-      } else if (kind < 5) {
-        askGiven();
-      } else if (kind == 5) {
-        askFamilies();
-      } else if (kind == 6) {
-        askFormsAndParts();
-      } else {
-        askTable();
-      }
+  private static String anyCall(Numbers numbers) {
+    int left = numbers.next(240);
+    int i = 0;
+    while (left >= (int) SHARES[i + 1]) {
+      left -= (int) SHARES[i + 1];
+      i += 2;
     }
-  }
-
-  private void changeGiven(int bundledOnes) {
-    if (next(3) == 0) {
-      DUE.is(name + "take()", desk.take(), reference.take());
-      return;
-    }
-    int x = set();
-    int y = set();
-    int bundled = next(4) < bundledOnes ? 1 + next(5) : 0;
-    DUE.is(name + "give(" + x + ", " + y + ", " + bundled + ")", desk.give(x, y, bundled), reference.give(x, y, bundled));
-  }
-
-  private void changeParts() {
-    if (next(6) == 0) {
-      desk.whole();
-      reference.whole();
-      return;
-    }
-    int s = next(4) == 0 ? set() : next(64) | next(64);
-    DUE.is(name + "part(" + s + ")", desk.part(s), reference.part(s));
-  }
-
-  private void changeTable(int numbers) {
-    int kind = next(30);
-    if (kind == 0) {
-      desk.blank();
-      reference.blank();
-    } else if (kind < 6) {
-      DUE.is(name + "row()", desk.row(), reference.row());
-    } else {
-      int r = index();
-      int c = index();
-      int x = next(numbers + 1);
-      DUE.is(name + "write(" + r + ", " + c + ", " + x + ")", desk.write(r, c, x), reference.write(r, c, x));
-    }
-  }
-
-  private void askGiven() {
-    int x = set();
-    int y = set();
-    String both = "(" + x + ", " + y + ")";
-    switch (next(4)) {
-      case 0 -> DUE.is(name + "closure(" + x + ")", desk.closure(x), reference.closure(x));
-      case 1 -> DUE.is(name + "follows" + both, desk.follows(x, y), reference.follows(x, y));
-      case 2 -> DUE.is(name + "bundles" + both, desk.bundles(x, y), reference.bundles(x, y));
-      default -> DUE.is(name + "needs" + both, desk.needs(x, y), reference.needs(x, y));
-    }
-  }
-
-  private void askFamilies() {
-    int i = index();
-    switch (next(6)) {
-      case 0 -> DUE.is(name + "keys()", desk.keys(), reference.keys());
-      case 1 -> DUE.is(name + "key(" + i + ")", desk.key(i), reference.key(i));
-      case 2 -> DUE.is(name + "closed()", desk.closed(), reference.closed());
-      case 3 -> DUE.is(name + "corners()", desk.corners(), reference.corners());
-      case 4 -> DUE.is(name + "stems()", desk.stems(), reference.stems());
-      default -> DUE.is(name + "stem(" + i + ")", desk.stem(i), reference.stem(i));
-    }
-  }
-
-  private void askFormsAndParts() {
-    int s = next(2) == 0 ? set() : next(64) | next(64);
-    switch (next(5)) {
-      case 0 -> DUE.is(name + "third(" + s + ")", desk.third(s), reference.third(s));
-      case 1 -> DUE.is(name + "boyce(" + s + ")", desk.boyce(s), reference.boyce(s));
-      case 2 -> DUE.is(name + "fourth()", desk.fourth(), reference.fourth());
-      case 3 -> DUE.is(name + "lossless()", desk.lossless(), reference.lossless());
-      default -> DUE.is(name + "preserves()", desk.preserves(), reference.preserves());
-    }
-  }
-
-  private void askTable() {
-    int x = set();
-    int y = set();
-    String both = "(" + x + ", " + y + ")";
-    switch (next(5)) {
-      case 0 -> DUE.is(name + "keeps" + both, desk.keeps(x, y), reference.keeps(x, y));
-      case 1 -> DUE.is(name + "keepsBundled" + both, desk.keepsBundled(x, y), reference.keepsBundled(x, y));
-      case 2 -> DUE.is(name + "discovered()", desk.discovered(), reference.discovered());
-      case 3 -> DUE.is(name + "agreements()", desk.agreements(), reference.agreements());
-      default -> DUE.is(name + "exact()", desk.exact(), reference.exact());
-    }
+    return (String) SHARES[i];
   }
 
   /** Any calls hardly ever make a table exact, so here the dependencies are made for the table. */
-  private void exactTables() {
-    int rows = next(7);
-    int numbers = 2 + next(2);
+  private static void exactTable(int number) {
+    String name = "run " + number + ": ";
+    Numbers numbers = new Numbers(number);
+    DependencyDesk desk = new DependencyDesk();
+    Reference reference = new Reference();
+    int rows = numbers.next(7);
+    int different = 2 + numbers.next(2);
     for (int r = 0; r < rows; r++) {
       desk.row();
       reference.row();
       for (int c = 0; c < 6; c++) {
-        int x = next(numbers);
+        int x = numbers.next(different);
         desk.write(r, c, x);
         reference.write(r, c, x);
       }
