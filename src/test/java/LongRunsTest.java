@@ -13,11 +13,14 @@ public final class LongRunsTest {
     "give", "fourth", "lossless", "discovered", "part", "write", "preserves", "agreements", "exact",
     "whole", "take", "row", "write", "take", "part", "blank", "take", "give",
   };
-  /** Calls that change nothing in a full object. (The reference takes long for needs there.) */
+  /** So many calls drawOut makes. */
+  private static final int DRAWING_OUT = 167;
+
+  /** Calls that change nothing in a full object. */
   private static final String[] ON_A_FULL_ONE = {
-    "give", "closure", "follows", "bundles", "keys", "key", "closed", "corners", "stems", "stem",
-    "third", "boyce", "fourth", "part", "lossless", "preserves", "row", "keeps", "keepsBundled",
-    "discovered", "agreements", "exact",
+    "give", "closure", "follows", "bundles", "needs", "keys", "key", "closed", "corners", "stems",
+    "stem", "third", "boyce", "fourth", "part", "lossless", "preserves", "row", "keeps",
+    "keepsBundled", "discovered", "agreements", "exact",
   };
   private static final Due DUE = new Due("LongRunsTest");
 
@@ -25,8 +28,10 @@ public final class LongRunsTest {
     eachCallAtEachPlace();
     eachCallBehindEach();
     oneCallAgainAndAgain();
+    refusedAgainAndAgain();
     emptiedByTheLastCallButOne();
     limitsAgainAndAgain();
+    exactToTheEnd();
     twoObjectsInTurn();
     allIsKeptToTheEnd();
     DUE.end();
@@ -80,15 +85,54 @@ public final class LongRunsTest {
     }
   }
 
+  /** On an object that holds a little and on a full one, and then all is drawn out of it: the call
+   *  changes nothing that it should not. */
   private static void oneCallAgainAndAgain() {
     for (String call : Beside.FACE) {
-      for (int seed = 0; seed < 3; seed++) {
+      for (int seed = 0; seed < 4; seed++) {
         Numbers numbers = new Numbers(seed);
-        Beside both = filled(call + " again and again", numbers);
-        while (both.hasCallsLeft()) {
+        String run = call + " again and again, " + seed;
+        Beside both = seed < 2 ? filled(run, numbers) : full(run);
+        while (both.callsMade() < Beside.MOST_CALLS - DRAWING_OUT) {
           anyCall(both, numbers, call);
         }
+        drawOut(both);
       }
+    }
+  }
+
+  private static void refusedAgainAndAgain() {
+    Object[][] refused = {
+      {"give", new int[] {64, 0, 0}, new int[] {0, -1, 1}},
+      {"closure", new int[] {64}, new int[] {-1}},
+      {"follows", new int[] {64, 0}, new int[] {63, -1}},
+      {"bundles", new int[] {64, 0}, new int[] {63, -1}},
+      {"needs", new int[] {64, 0}, new int[] {63, -1}},
+      {"key", new int[] {64}, new int[] {-1}},
+      {"stem", new int[] {64}, new int[] {-1}},
+      {"third", new int[] {64}, new int[] {-1}},
+      {"boyce", new int[] {64}, new int[] {-1}},
+      {"part", new int[] {64}, new int[] {-1}},
+      {"write", new int[] {6, 0, 1}, new int[] {0, -1, 1}},
+      {"keeps", new int[] {64, 0}, new int[] {63, -1}},
+      {"keepsBundled", new int[] {64, 0}, new int[] {63, -1}},
+    };
+    for (Object[] one : refused) {
+      Beside both = filled("refused again and again", new Numbers(1));
+      while (both.hasCallsLeft()) {
+        both.call((String) one[0], (int[]) one[1 + both.callsMade() % 2]);
+      }
+    }
+    toTheEnd(full("full to the end"), "give", 1, 2, 0);
+    toTheEnd(full("full to the end"), "part", 63);
+    toTheEnd(full("full to the end"), "row");
+    toTheEnd(new Beside(DUE, "new to the end"), "take");
+    toTheEnd(new Beside(DUE, "new to the end"), "needs", 0, 1);
+  }
+
+  private static void toTheEnd(Beside both, String call, int... arguments) {
+    while (both.hasCallsLeft()) {
+      both.call(call, arguments);
     }
   }
 
@@ -148,6 +192,36 @@ public final class LongRunsTest {
     return calls;
   }
 
+  /** Any calls hardly ever make a table exact: here it is and is not in turn, at each place of a run. */
+  private static void exactToTheEnd() {
+    String[] table = {"000000", "100000", "210000", "321000"};
+    for (int before = 0; before < 4; before++) {
+      Beside both = new Beside(DUE, "exact to the end, " + before);
+      for (int i = 0; i < before; i++) {
+        both.call("exact");
+      }
+      both.call("give", 0, 56, 0);
+      both.call("give", 1, 2, 0);
+      both.call("give", 2, 4, 0);
+      writeRows(both, table);
+      for (int x = 1; both.hasCallsLeft(); x = 1 - x) {
+        both.call("exact");
+        if (both.hasCallsLeft()) {
+          both.call("write", 3, 5, x);
+        }
+      }
+    }
+  }
+
+  private static void writeRows(Beside both, String... digits) {
+    for (int r = 0; r < digits.length; r++) {
+      both.call("row");
+      for (int c = 0; c < 6; c++) {
+        both.call("write", r, c, digits[r].charAt(c) - '0');
+      }
+    }
+  }
+
   private static void twoObjectsInTurn() {
     for (int seed = 0; seed < 10; seed++) {
       Numbers numbers = new Numbers(seed);
@@ -160,14 +234,13 @@ public final class LongRunsTest {
     }
   }
 
-  /** What the first calls give is there to the last: here 105 calls draw all out of a full object. */
+  /** What the first calls give is there to the last. */
   private static void allIsKeptToTheEnd() {
     for (int seed = 0; seed < 8; seed++) {
       Numbers numbers = new Numbers(seed);
       Beside both = full("all is kept to the end, " + seed);
-      while (both.callsMade() < Beside.MOST_CALLS - 105) {
-        String call = ON_A_FULL_ONE[numbers.next(ON_A_FULL_ONE.length)];
-        anyCall(both, numbers, call);
+      while (both.callsMade() < Beside.MOST_CALLS - DRAWING_OUT) {
+        anyCall(both, numbers, ON_A_FULL_ONE[numbers.next(ON_A_FULL_ONE.length)]);
       }
       drawOut(both);
     }
@@ -181,15 +254,11 @@ public final class LongRunsTest {
     for (int part : new int[] {7, 11, 19, 35}) {
       both.call("part", part);
     }
-    for (int r = 0; r < Desks.SIX_ROWS.length; r++) {
-      both.call("row");
-      for (int c = 0; c < 6; c++) {
-        both.call("write", r, c, Desks.SIX_ROWS[r].charAt(c) - '0');
-      }
-    }
+    writeRows(both, Desks.SIX_ROWS);
     return both;
   }
 
+  /** Calls that take the state apart until nothing of it is left unseen. */
   private static void drawOut(Beside both) {
     for (int cell = 0; cell < 36; cell++) {
       both.call("write", cell / 6, cell % 6, 0);
@@ -197,11 +266,6 @@ public final class LongRunsTest {
     for (int i = 0; i < 7; i++) {
       both.call("row");
     }
-    for (int i = 0; i < 5; i++) {
-      both.call("part", 0);
-    }
-    both.call("lossless");
-    both.call("preserves");
     for (int i = 0; i < 11; i++) {
       both.call("closed");
       both.call("closure", 4);
@@ -209,6 +273,22 @@ public final class LongRunsTest {
       both.call("fourth");
       both.call("take");
     }
+    drawOutParts(both);
     DUE.is("calls made when all is drawn out", both.callsMade(), Beside.MOST_CALLS);
+  }
+
+  /** One dependency alone is preserved just if a part has all its columns. */
+  private static void drawOutParts(Beside both) {
+    for (int a = 0; a < 6; a++) {
+      for (int b = 0; b <= a; b++) {
+        both.call("give", a == b ? 0 : 1 << a, 1 << b, 0);
+        both.call("preserves");
+        both.call("take");
+      }
+    }
+    for (int i = 0; i < 5; i++) {
+      both.call("part", 0);
+    }
+    both.call("lossless");
   }
 }

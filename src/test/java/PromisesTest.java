@@ -1,3 +1,9 @@
+import java.util.ArrayList;
+import java.util.Arrays;
+import java.util.HashSet;
+import java.util.List;
+import java.util.Set;
+
 /** Each promise of the document by itself: ordinary inputs, the edges it names, and wrong inputs. */
 public final class PromisesTest {
   private static final int MIN = Desks.MIN;
@@ -27,7 +33,9 @@ public final class PromisesTest {
     whole();
     lossless();
     losslessEdges();
+    losslessByLongWays();
     preserves();
+    preservesByLongWays();
     row();
     write();
     blank();
@@ -425,6 +433,56 @@ public final class PromisesTest {
     DUE.is("19: the single one itself does", mixed.lossless(), true);
   }
 
+  /** Cases, found by search, in which step upon step must wait for another in some orders of the parts. */
+  private static void losslessByLongWays() {
+    int[][][] cases = {
+      {{23, 4, 17, 8, 26, 61, 38, 8, 62, 42, 11, 33}, {54, 51, 15, 61}},
+      {{5, 13, 53, 36, 44, 14, 30, 43}, {43, 60, 31, 39}},
+      {{63, 4, 63, 1, 34, 6, 3, 8, 40, 48, 29, 2}, {30, 45, 31, 51}},
+      {{59, 8, 4, 3, 9, 43, 51, 4, 24, 56, 27, 49, 63, 4}, {52, 27, 46, 5}},
+      {{2, 5, 61, 36, 63, 20, 37, 2, 17, 4, 22, 29, 31, 4, 43, 1}, {5, 49, 26, 47}},
+    };
+    for (int[][] one : cases) {
+      for (int[] order : orders(one[1])) {
+        DependencyDesk desk = Desks.singles(one[0]);
+        Desks.parts(desk, order);
+        DUE.is("19: a long way with " + Arrays.toString(order), desk.lossless(), true);
+      }
+    }
+  }
+
+  private static void preservesByLongWays() {
+    int[][][] cases = {
+      {{16, 15, 24, 16, 1, 11, 15, 12, 12, 32, 8, 16, 32, 59, 10, 4}, {20, 50, 33, 9}},
+      {{32, 4, 1, 50, 17, 42, 6, 28, 18, 15, 18, 4}, {45, 35, 50, 22}},
+      {{32, 2, 1, 32, 13, 23, 2, 9, 8, 2, 48, 32, 2, 26}, {52, 37, 13, 14}},
+      {{1, 47, 4, 32, 34, 55, 61, 18, 16, 15, 8, 1, 51, 43}, {7, 44, 26, 50}},
+    };
+    for (int[][] one : cases) {
+      for (int[] order : orders(one[1])) {
+        DependencyDesk desk = Desks.singles(one[0]);
+        Desks.parts(desk, order);
+        DUE.is("20: a long way with " + Arrays.toString(order), desk.preserves(), true);
+        desk.whole();
+        for (int i = 0; i < 3; i++) {
+          desk.part(order[i]);
+        }
+        DUE.is("20: without the part " + order[3], desk.preserves(), false);
+      }
+    }
+  }
+
+  private static List<int[]> orders(int[] parts) {
+    List<int[]> found = new ArrayList<>();
+    for (int i = 0; i < 256; i++) {
+      int[] places = {i & 3, i >> 2 & 3, i >> 4 & 3, i >> 6};
+      if (Arrays.stream(places).distinct().count() == 4) {
+        found.add(Arrays.stream(places).map(place -> parts[place]).toArray());
+      }
+    }
+    return found;
+  }
+
   private static void preserves() {
     DependencyDesk desk = Desks.singles(1, 2, 2, 4, 4, 1);
     DUE.is("20: no part", desk.preserves(), false);
@@ -624,7 +682,7 @@ public final class PromisesTest {
   }
 
   private static int countAgreements(String... digits) {
-    java.util.Set<Integer> found = new java.util.HashSet<>();
+    Set<Integer> found = new HashSet<>();
     for (int r = 0; r < digits.length; r++) {
       for (int s = r + 1; s < digits.length; s++) {
         int agreed = 0;
